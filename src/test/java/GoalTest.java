@@ -14,6 +14,8 @@ final class GoalTest {
         differences();
         solvable();
         quietSets();
+        quietCellsOfAnother();
+        everySize();
         bestSolution();
         bestOfSeveral();
         solve();
@@ -71,6 +73,13 @@ final class GoalTest {
         grid.setLight(0, 1, true);
         CHECK.yes("20: two of two", grid.isSolvable());
         CHECK.yes("21: two of two", grid.isSolvableByParity());
+        grid.press(0, 0);
+        CHECK.yes("21: asked first", grid.isSolvableByParity());
+        grid.setLight(0, 0, true);
+        CHECK.no("21: asked first", grid.isSolvableByParity());
+        grid.resize(3, 3);
+        grid.setLight(0, 0, true);
+        CHECK.yes("21: after another size", grid.isSolvableByParity());
     }
 
     private static void quietSets() {
@@ -99,6 +108,52 @@ final class GoalTest {
         grid.setLight(0, 0, true);
         CHECK.same("22: lights do not matter, " + what, grid.quietNumber(), number);
         CHECK.same("23: lights do not matter, " + what, Look.quietCells(grid), cells);
+    }
+
+    private static void quietCellsOfAnother() {
+        GlowwormGrid grid = Make.grid(2, 2, 'o');
+        CHECK.same("24: 2x2 o", grid.quietCellCount(), 4);
+        grid.resize(1, 5);
+        CHECK.same("24: then 1x5 o", grid.quietCellCount(), 4);
+        CHECK.same("23: then 1x5 o", Look.quietCells(grid), "**.**");
+        grid.setPattern('s');
+        CHECK.no("23: then s", grid.isQuietCell(0, 0));
+        CHECK.same("24: then s", grid.quietCellCount(), 0);
+    }
+
+    /** Every size with every pattern, against the model's search through all sets. */
+    private static void everySize() {
+        for (int index = 0; index < 100; index++) {
+            int rows = 1 + index / 4 / 5;
+            int columns = 1 + index / 4 % 5;
+            char pattern = "+xos".charAt(index % 4);
+            GlowwormGrid grid = Make.grid(rows, columns, pattern);
+            Model model = new Model();
+            model.setPattern(pattern);
+            model.resize(rows, columns);
+            String what = rows + "x" + columns + " " + pattern;
+            CHECK.same("22: " + what, grid.quietNumber(), model.quietNumber());
+            CHECK.same("24: " + what, grid.quietCellCount(), model.quietCellCount());
+            for (int press = 0; press < rows * columns; press += 1 + press % 3) {
+                grid.press(press / columns, press % columns);
+                model.press(press / columns, press % columns);
+            }
+            CHECK.yes("20: " + what, grid.isSolvable());
+            CHECK.yes("21: " + what, grid.isSolvableByParity());
+            CHECK.same("25: " + what, grid.fewestPresses(), model.fewestPresses());
+            for (int cell = 0; cell < rows * columns; cell++) {
+                int row = cell / columns;
+                int column = cell % columns;
+                CHECK.same("26: " + what + cell, grid.isInSolution(row, column) ? 1 : 0,
+                        model.isInSolution(row, column) ? 1 : 0);
+            }
+            for (int cell = 0; cell < rows * columns; cell++) {
+                grid.setLight(cell / columns, cell % columns, cell % 7 < 3);
+                model.setLight(cell / columns, cell % columns, cell % 7 < 3);
+                CHECK.same("21: lights, " + what, grid.isSolvableByParity() ? 1 : 0, model.isSolvable() ? 1 : 0);
+                CHECK.same("20: lights, " + what, grid.isSolvable() ? 1 : 0, model.isSolvable() ? 1 : 0);
+            }
+        }
     }
 
     private static void bestSolution() {
@@ -172,6 +227,10 @@ final class GoalTest {
         CHECK.same("28: goals", grid.chase(), 2);
         CHECK.same("28: goals, lights", Look.lights(grid), ".*./*..");
         CHECK.same("28: goals, presses", Look.presses(grid), "000/011");
+        grid = Make.lit('+', "*....", ".....", ".....", ".....", "..*.*");
+        CHECK.same("28: 5x5", grid.chase(), 8);
+        CHECK.same("28: 5x5, lights", Look.lights(grid), "...../...../...../...../..*..");
+        CHECK.same("28: 5x5, presses", Look.presses(grid), "00000/10000/11000/10100/01110");
         CHECK.same("28: one row", Make.lit('+', "**.").chase(), 0);
     }
 

@@ -104,7 +104,9 @@ final class GridTest {
         CHECK.same("4: still lit", Look.lights(grid), ".../..*");
         CHECK.yes("4: lit before, to dark", grid.setLight(1, 2, false));
         CHECK.same("4: dark then", Look.lights(grid), ".../...");
+        CHECK.same("10: as if it had never been lit", Look.lightsByPresses(grid), ".../...");
         CHECK.no("4: dark before, to dark", grid.setLight(1, 2, false));
+        CHECK.same("10: still dark", Look.lightsByPresses(grid), ".../...");
         CHECK.same("4: no presses", Look.presses(grid), "000/000");
     }
 

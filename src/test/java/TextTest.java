@@ -48,6 +48,7 @@ final class TextTest {
         effect("light 0 2", "3x3+ lit ..*/.../... goals .../.../... presses 000/000/000 worms  steps 0");
         effect("light 0 2;dark 0 2", "3x3+ lit .../.../... goals .../.../... presses 000/000/000 worms  steps 0");
         effect("goal 2 1", "3x3+ lit .../.../... goals .../.../.*. presses 000/000/000 worms  steps 0");
+        effect("goal 2 1;goal 2 1", "3x3+ lit .../.../... goals .../.../... presses 000/000/000 worms  steps 0");
         effect("size 1 4", "1x4+ lit .... goals .... presses 0000 worms  steps 0");
         effect("pattern +", "3x3+ lit .../.../... goals .../.../... presses 000/000/000 worms  steps 0");
         effect("pattern x", "3x3x lit .../.../... goals .../.../... presses 000/000/000 worms  steps 0");
