@@ -485,9 +485,6 @@ public final class GlowwormGrid {
     private static final class Board {
         private static final int FIRST_SIZE = 3;
 
-        // The way to the next cell, for each of DIRECTIONS.
-        private static final int[] WAYS = {-ROW_STRIDE, 1, ROW_STRIDE, -1};
-
         int rows;
         int columns;
         int cells;
@@ -622,7 +619,7 @@ public final class GlowwormGrid {
         int letWormsAct() {
             int made = 0;
             for (int worm = 0; worm < worms.count; worm++) {
-                int next = worms.cells[worm] + WAYS[worms.directions[worm]];
+                int next = worms.cells[worm] + worms.wayOf(worm);
                 if (hasNumber(next) && worms.numberIn(next) == NONE) {
                     worms.cells[worm] = next;
                     pressCell(next);
@@ -684,6 +681,20 @@ public final class GlowwormGrid {
                 directions[later - 1] = directions[later];
             }
             count--;
+        }
+
+        // From a cell's number to the next one's.
+        int wayOf(int worm) {
+            switch (DIRECTIONS.charAt(directions[worm])) {
+                case 'n':
+                    return -ROW_STRIDE;
+                case 'e':
+                    return 1;
+                case 's':
+                    return ROW_STRIDE;
+                default:
+                    return -1;
+            }
         }
 
         void turnRight(int worm) {
