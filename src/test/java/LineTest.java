@@ -46,7 +46,9 @@ final class LineTest {
         grid.writeRow(0);
         CHECK.same("39: last", grid.lineAt(5), '!');
         for (int index : new int[] {-1, 6, 9, 10, 11, Integer.MIN_VALUE, Integer.MAX_VALUE}) {
-            CHECK.refused("39: " + index, INDEX, grid, () -> grid.lineAt(index));
+            GlowwormGrid written = Make.lit('+', "....*");
+            written.writeRow(0);
+            CHECK.refused("39: " + index, INDEX, written, () -> written.lineAt(index));
         }
         grid.resize(1, 1);
         grid.writeRow(0);

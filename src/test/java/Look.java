@@ -52,7 +52,8 @@ final class Look {
     /** Each glowworm by its row, its column and its direction. */
     static String worms(GlowwormGrid grid) {
         StringBuilder seen = new StringBuilder();
-        for (int worm = 0; worm < grid.wormCount(); worm++) {
+        int worms = grid.wormCount();
+        for (int worm = 0; worm < worms; worm++) {
             seen.append(worm == 0 ? "" : " ");
             seen.append(grid.rowOfWorm(worm)).append(grid.columnOfWorm(worm)).append(grid.directionOf(worm));
         }
@@ -81,9 +82,11 @@ final class Look {
 
     private static String cells(GlowwormGrid grid, CellText text) {
         StringBuilder seen = new StringBuilder();
-        for (int row = 0; row < grid.rowCount(); row++) {
+        int rows = grid.rowCount();
+        int columns = grid.columnCount();
+        for (int row = 0; row < rows; row++) {
             seen.append(row == 0 ? "" : "/");
-            for (int column = 0; column < grid.columnCount(); column++) {
+            for (int column = 0; column < columns; column++) {
                 seen.append(text.of(row, column));
             }
         }
